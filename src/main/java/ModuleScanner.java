@@ -255,10 +255,6 @@ public final class ModuleScanner {
         return table.meet(reader.draft, reader.pool.firstOf(text), reader.pool.secondOf(text));
     }
 
-    private long meetTypes(int text) {
-        return table.meetTypes(reader.draft, reader.pool.firstOf(text), reader.pool.secondOf(text));
-    }
-
     private long meetPool() {
         Pool pool = reader.pool;
         long met = 0;
@@ -266,12 +262,12 @@ public final class ModuleScanner {
             if (pool.isNamedClass(entry)) {
                 met |= setOf(meetClass(entry));
             } else if (pool.kindOf(entry) == CLASS) {
-                met |= meetTypes(pool.firstOf(entry));
+                met |= table.meetTypes(reader.draft, pool, pool.firstOf(entry));
             }
         }
         for (int entry = 1; entry < pool.size; entry++) {
             if (pool.kindOf(entry) == PAIR) {
-                met |= meetTypes(pool.secondOf(entry));
+                met |= table.meetTypes(reader.draft, pool, pool.secondOf(entry));
             }
         }
         return met;
@@ -279,7 +275,7 @@ public final class ModuleScanner {
 
     private void meetMembers(ClassFile f) {
         for (int m = 0; m < reader.members; m++) {
-            long met = meetTypes(reader.memberTypes[m]);
+            long met = table.meetTypes(reader.draft, reader.pool, reader.memberTypes[m]);
             f.used |= met;
             if ((reader.memberFlags[m] & (PUBLIC | PROTECTED)) != 0) {
                 f.shown |= met;
@@ -442,7 +438,7 @@ public final class ModuleScanner {
                 return false;
             }
             int at = from + 1;
-            // Each type takes a byte or more, so there are less of them than bytes.
+            // Each type takes a byte or more, so there are fewer of them than bytes.
             for (int types = from; types < to; types++) {
                 if (at == NONE || at >= to || draft.byteAt(at) == ')') {
                     break;
@@ -780,7 +776,7 @@ public final class ModuleScanner {
             if (!isName(name) || i < 0 || i >= lengths[name]) {
                 return NONE;
             }
-            return letters[startOf(name) + i];
+            return letters[name * LONGEST_NAME + i];
         }
 
         int homeOf(int name) {
@@ -793,16 +789,12 @@ public final class ModuleScanner {
 
         int numberOf(Draft draft, int from, int to) {
             for (int name = 0; name < count; name++) {
-                int length = lengths[name];
-                if (length == to - from && draft.hasAt(from, letters, startOf(name), length)) {
+                int start = name * LONGEST_NAME;
+                if (lengths[name] == to - from && draft.hasAt(from, letters, start, to - from)) {
                     return name;
                 }
             }
             return NONE;
-        }
-
-        private static int startOf(int name) {
-            return name * LONGEST_NAME;
         }
 
         /** The number of the name that stands there, NONE when it would be one too many. */
@@ -826,7 +818,7 @@ public final class ModuleScanner {
             packageLengths[count] = 0;
             for (int i = 0; i < to - from; i++) {
                 int c = draft.byteAt(from + i);
-                letters[startOf(count) + i] = c;
+                letters[count * LONGEST_NAME + i] = c;
                 if (c == '/') {
                     packageLengths[count] = i;
                 }
@@ -847,19 +839,20 @@ public final class ModuleScanner {
                 return false;
             }
             for (int i = 0; i < packageLengths[a]; i++) {
-                if (letters[startOf(a) + i] != letters[startOf(b) + i]) {
+                if (letters[a * LONGEST_NAME + i] != letters[b * LONGEST_NAME + i]) {
                     return false;
                 }
             }
             return true;
         }
 
-        /** The names in a type, an array type or a method type that has been found right. */
-        long meetTypes(Draft draft, int from, int to) {
+        /** The names in a text that has been found to be a type or a method type. */
+        long meetTypes(Draft draft, Pool pool, int text) {
+            int to = pool.secondOf(text);
             long met = 0;
-            // Where a class name is open: behind its L.
+            // Behind the L of a class name the place where it begins.
             int open = NONE;
-            for (int at = from; at < to; at++) {
+            for (int at = pool.firstOf(text); at < to; at++) {
                 int c = draft.byteAt(at);
                 if (open == NONE) {
                     open = c == 'L' ? at + 1 : NONE;
