@@ -31,6 +31,10 @@ public final class RandomRunsTest {
 
     private void same(String call, long got, long due) {
         calls++;
+        // What an object answers after its last promised call is free.
+        if (calls > CALLS) {
+            return;
+        }
         checks.same("run " + run + " call " + calls + " " + call, got, due);
     }
 

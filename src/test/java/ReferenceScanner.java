@@ -7,8 +7,9 @@ import java.util.regex.Matcher;
 import java.util.regex.Pattern;
 
 /**
- * The document once more, in the plainest words that the whole Java library allows and without a
- * look at the program, so that long runs of calls can be compared.
+ * The document once more, by other means than the program's (texts, patterns, sets and lists of the
+ * Java library), so that long runs of calls can be compared. It has the same author as the program:
+ * it finds slips of the one or the other, not a sentence of the document that both take wrongly.
  */
 final class ReferenceScanner {
     private static final String NAME = "(?=[^;]{1,16}(?:;|$))[a-zA-Z0-9_$]+(?:/[a-zA-Z0-9_$]+)*";
