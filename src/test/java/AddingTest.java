@@ -13,12 +13,12 @@ public final class AddingTest {
         dropMovesTheOthersUp();
         namesComeInTheOrderOfTheirMeeting();
         namesStay();
-        letters();
         providers();
         filesTellTheirParts();
         CHECKS.end();
     }
 
+    /** "The draft is added as a class file to the jar: its number; the draft is empty then." */
     private static void addNumbersInOrder() {
         ModuleScanner s = new ModuleScanner();
         CHECKS.same("the first", Checks.add(s, 3, new ClassMaker("A")), 0);
@@ -28,6 +28,7 @@ public final class AddingTest {
         CHECKS.same("names", s.names(), 2);
     }
 
+    /** "NONE when there is no such jar". */
     private static void addRefusesOtherJars() {
         ModuleScanner s = new ModuleScanner();
         Checks.put(s, new ClassMaker("A").bytes());
@@ -44,6 +45,7 @@ public final class AddingTest {
         return "n/" + (char) ('A' + n);
     }
 
+    /** "NONE when ... 16 are there". */
     private static void addRefusesASeventeenth() {
         ModuleScanner s = new ModuleScanner();
         for (int n = 0; n < 16; n++) {
@@ -63,6 +65,7 @@ public final class AddingTest {
         CHECKS.same("then the draft stays", s.drop(0) > 0 ? s.add(0) : 0, -2);
     }
 
+    /** "-2 - k when it is wrong at k", "The draft becomes empty when it is wrong, too." */
     private static void addEmptiesAWrongDraft() {
         ModuleScanner s = new ModuleScanner();
         Checks.put(s, new ClassMaker("A").bytes());
@@ -74,6 +77,7 @@ public final class AddingTest {
         CHECKS.same("the draft was empty", s.add(0), 0);
     }
 
+    /** "-1000 when the jar has one with this name". */
     private static void addRefusesANameTwiceInAJar() {
         ModuleScanner s = new ModuleScanner();
         Checks.add(s, 1, new ClassMaker("a/B"));
@@ -98,6 +102,7 @@ public final class AddingTest {
         return maker;
     }
 
+    /** "-1001 when a 49th name would be met". */
     private static void addRefusesA49thName() {
         ModuleScanner s = new ModuleScanner();
         for (int n = 0; n < 4; n++) {
@@ -124,6 +129,7 @@ public final class AddingTest {
         CHECKS.same("the layer of the last", s.layer(47), 2);
     }
 
+    /** "NONE ...; else -2 - k ...; else -1000 ...; else -1001". */
     private static void refusalsComeInOrder() {
         ModuleScanner s = new ModuleScanner();
         for (int n = 0; n < 4; n++) {
@@ -136,6 +142,7 @@ public final class AddingTest {
         CHECKS.same("the fault before both", s.add(0), -2 - twice.bytes().length);
     }
 
+    /** "All class files of a jar go", "those behind one that goes move up". */
     private static void dropMovesTheOthersUp() {
         ModuleScanner s = new ModuleScanner();
         int[] jars = {0, 1, 0, 2, 1, 0};
@@ -167,6 +174,7 @@ public final class AddingTest {
         CHECKS.same("none left", s.file(0, 0), -1);
     }
 
+    /** "that of THIS; those of the classes in the pool ...; ... of pairs ...; of the fields, then of the methods". */
     private static void namesComeInTheOrderOfTheirMeeting() {
         ModuleScanner s = new ModuleScanner();
         ClassMaker maker = new ClassMaker().method(0, "(Lm/2;[Lm/1;)Lm/3;").field(0, "[[Lf/1;").field(0, "Lf/0;");
@@ -180,6 +188,7 @@ public final class AddingTest {
         CHECKS.same("then that of SUPER", s.file(1, 2), 15);
     }
 
+    /** "names stay". */
     private static void namesStay() {
         ModuleScanner s = new ModuleScanner();
         Checks.add(s, 0, new ClassMaker("A").using("B"));
@@ -191,27 +200,7 @@ public final class AddingTest {
         CHECKS.same("what it uses", s.uses(0, false), Checks.set(0, 1));
     }
 
-    private static void letters() {
-        ModuleScanner s = new ModuleScanner();
-        Checks.add(s, 0, new ClassMaker("ab/Cd_$09").using("abcdefg/ijklmnop", "x"));
-        String first = "ab/Cd_$09";
-        for (int i = 0; i < first.length(); i++) {
-            CHECKS.same("letter " + i, s.letter(0, i), first.charAt(i));
-        }
-        CHECKS.same("behind the last", s.letter(0, 9), -1);
-        CHECKS.same("letter -1", s.letter(0, -1), -1);
-        CHECKS.same("the 16th", s.letter(1, 15), 'p');
-        CHECKS.same("the 17th", s.letter(1, 16), -1);
-        CHECKS.same("of a short one", s.letter(2, 0), 'x');
-        CHECKS.same("behind a short one", s.letter(2, 1), -1);
-        CHECKS.same("no such name", s.letter(3, 0), -1);
-        CHECKS.same("name -1", s.letter(-1, 0), -1);
-        CHECKS.same("name -1, letter 16", s.letter(-1, 16), -1);
-        CHECKS.same("the greatest name", s.letter(Integer.MAX_VALUE, 0), -1);
-        CHECKS.same("the greatest letter", s.letter(0, Integer.MAX_VALUE), -1);
-        CHECKS.same("the least letter", s.letter(0, Integer.MIN_VALUE), -1);
-    }
-
+    /** "of several that in the jar with the least number". */
     private static void providers() {
         ModuleScanner s = new ModuleScanner();
         Checks.add(s, 3, new ClassMaker("A").using("B"));
@@ -237,6 +226,7 @@ public final class AddingTest {
         }
     }
 
+    /** "0 its jar, 1 its name, 2 the name of SUPER (NONE for 0), 3 its flags, 4 how many interfaces, ..." */
     private static void filesTellTheirParts() {
         ModuleScanner s = new ModuleScanner();
         Checks.add(s, 2, new ClassMaker("A").flags(0xFFFF).parent("P").implementing("I").implementing("I").implementing("K")

@@ -65,8 +65,8 @@ final class Checks {
 
     static String text(ModuleScanner scanner, int name) {
         StringBuilder text = new StringBuilder();
-        for (int i = 0; scanner.letter(name, i) != ModuleScanner.NONE; i++) {
-            text.append((char) scanner.letter(name, i));
+        for (int c = scanner.letter(name, 0); c != ModuleScanner.NONE; c = scanner.letter(name, text.length())) {
+            text.append((char) c);
         }
         return text.toString();
     }

@@ -12,6 +12,7 @@ public final class DraftTest {
         CHECKS.end();
     }
 
+    /** "No class files, no names, an empty draft." */
     private static void aNewObjectIsEmpty() {
         ModuleScanner s = new ModuleScanner();
         CHECKS.same("NONE", ModuleScanner.NONE, -1);
@@ -38,6 +39,7 @@ public final class DraftTest {
         CHECKS.same("an empty draft is wrong at 0", s.add(0), -2);
     }
 
+    /** "the lowest 8 * n bits of bytes, the highest first". */
     private static void putTakesTheLowestBytesHighestFirst() {
         byte[] bytes = new ClassMaker("a/B").parent("c/D").field(1, "I").bytes();
         for (int n = 1; n <= 8; n++) {
@@ -57,6 +59,7 @@ public final class DraftTest {
         }
     }
 
+    /** "false when n is not 1 .. 8". */
     private static void putRefusesOtherCounts() {
         ModuleScanner s = new ModuleScanner();
         for (int n : new int[] {0, -1, 9, 10, 16, -8, Integer.MIN_VALUE, Integer.MAX_VALUE, 65, 1 << 30}) {
@@ -64,21 +67,28 @@ public final class DraftTest {
         }
     }
 
+    /** "false when ... it would have more than 400": each count behind each number of bytes. */
     private static void putRefusesMoreThan400Bytes() {
-        ModuleScanner s = new ModuleScanner();
-        for (int i = 0; i < 49; i++) {
-            CHECKS.holds("put before 400", s.put(8, 0));
+        for (int length = 384; length <= 400; length++) {
+            for (int n = -1; n <= 10; n++) {
+                ModuleScanner s = new ModuleScanner();
+                Checks.put(s, new byte[length]);
+                boolean fits = n >= 1 && n <= 8 && length + n <= 400;
+                CHECKS.same("put(" + n + ") behind " + length, s.put(n, 0) ? 1 : 0, fits ? 1 : 0);
+                CHECKS.same("a byte behind it", s.put(1, 0) ? 1 : 0, length + (fits ? n : 0) < 400 ? 1 : 0);
+            }
         }
-        CHECKS.holds("put up to 396", s.put(4, 0));
-        CHECKS.fails("put up to 401", s.put(5, 0));
-        CHECKS.fails("put up to 404", s.put(8, 0));
-        CHECKS.holds("put up to 400", s.put(4, 0));
-        CHECKS.fails("put up to 401 from 400", s.put(1, 0));
-        CHECKS.fails("put of 0 in a full draft", s.put(0, 0));
+        ModuleScanner s = new ModuleScanner();
+        for (int i = 0; i < 400; i++) {
+            CHECKS.holds("one byte a put", s.put(1, i));
+        }
+        CHECKS.fails("the 401st", s.put(1, 0));
+        CHECKS.fails("a count that would wrap", s.put(Integer.MAX_VALUE, 0));
         s.scrap();
         CHECKS.holds("put into a draft that was full", s.put(8, 0));
     }
 
+    /** "A call that answers ... false changes nothing". */
     private static void aRefusedPutChangesNothing() {
         byte[] bytes = new ClassMaker("A").bytes();
         ModuleScanner s = new ModuleScanner();
@@ -103,6 +113,7 @@ public final class DraftTest {
         return row.u2(1).u2(1).u4(left).all(new byte[left]).bytes();
     }
 
+    /** "The draft becomes empty." */
     private static void scrapEmptiesTheDraft() {
         ModuleScanner s = new ModuleScanner();
         s.put(8, 0x0123456789ABCDEFL);

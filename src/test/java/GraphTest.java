@@ -8,9 +8,11 @@ public final class GraphTest {
         twoCirclesInARow();
         onlyFoundClassFilesHaveEdges();
         layersOfWaysOfDifferentLength();
+        aNameAlone();
+        layersWithoutEdgesOut();
+        itselfIsNoEdge();
         sixteenInAChain();
         sixteenInACircle();
-        noSuchName();
         CHECKS.end();
     }
 
@@ -27,6 +29,7 @@ public final class GraphTest {
         CHECKS.same("layer(" + name + ")", s.layer(name), layer);
     }
 
+    /** "The set of a name and all names that are reached from it by edges". */
     private static void aChain() {
         ModuleScanner s = new ModuleScanner();
         use(s, 0, "A", "B");
@@ -46,6 +49,7 @@ public final class GraphTest {
         ask(s, 3, Checks.set(3), 3, 0);
     }
 
+    /** "The least of the names n for which name and n are reached from one another". */
     private static void aCircle() {
         ModuleScanner s = new ModuleScanner();
         use(s, 0, "X", "A");
@@ -86,6 +90,7 @@ public final class GraphTest {
         ask(s, 4, 16, 4, 1);
     }
 
+    /** "EDGES go to the names that the class file it is found as uses." */
     private static void onlyFoundClassFilesHaveEdges() {
         ModuleScanner s = new ModuleScanner();
         use(s, 2, "A", "B");
@@ -105,6 +110,7 @@ public final class GraphTest {
         ask(s, 2, Checks.set(2), 2, 1);
     }
 
+    /** "1 + the greatest layer of names to which edges go from names of its component". */
     private static void layersOfWaysOfDifferentLength() {
         ModuleScanner s = new ModuleScanner();
         use(s, 0, "A", "D", "B", "Z");
@@ -124,10 +130,46 @@ public final class GraphTest {
         CHECKS.same("above A itself", s.layer(6), 5);
     }
 
+    /** "0 for a name that is not found", "(name itself is one of them)". */
+    private static void aNameAlone() {
+        ModuleScanner s = new ModuleScanner();
+        use(s, 2, "A", "B");
+        ask(s, 1, Checks.set(1), 1, 0);
+        s.drop(2);
+        ask(s, 0, Checks.set(0), 0, 0);
+        ask(s, 1, Checks.set(1), 1, 0);
+        use(s, 2, "A");
+        ask(s, 0, Checks.set(0), 0, 1);
+    }
+
+    /** "(1 when there are none)": no edges at all, or none that leave the component. */
+    private static void layersWithoutEdgesOut() {
+        ModuleScanner s = new ModuleScanner();
+        use(s, 0, "A");
+        ask(s, 0, Checks.set(0), 0, 1);
+        use(s, 0, "B", "C");
+        CHECKS.same("an edge to a name that is not found", s.layer(1), 1);
+        use(s, 0, "C", "B");
+        ask(s, 1, Checks.set(1, 2), 1, 1);
+        ask(s, 2, Checks.set(1, 2), 1, 1);
+        use(s, 1, "C", "A");
+        ask(s, 2, Checks.set(1, 2), 1, 1);
+        use(s, 2, "D", "C", "A");
+        CHECKS.same("above a circle and one alone", s.layer(3), 2);
+    }
+
+    /** A class file does not use its own name, so no edge goes from a name to itself. */
+    private static void itselfIsNoEdge() {
+        ModuleScanner s = new ModuleScanner();
+        Checks.add(s, 0, new ClassMaker("A").parent("A").field(1, "LA;").pair("x", "()LA;"));
+        ask(s, 0, Checks.set(0), 0, 1);
+    }
+
     private static String nth(int n) {
         return "c/" + (char) ('A' + n);
     }
 
+    /** As many layers as there may be. */
     private static void sixteenInAChain() {
         for (int turn = 0; turn < 2; turn++) {
             ModuleScanner s = new ModuleScanner();
@@ -145,6 +187,7 @@ public final class GraphTest {
         }
     }
 
+    /** As many names in one component as there may be. */
     private static void sixteenInACircle() {
         ModuleScanner s = new ModuleScanner();
         for (int n = 0; n < 16; n++) {
@@ -152,14 +195,6 @@ public final class GraphTest {
         }
         for (int name = 0; name < 16; name++) {
             ask(s, name, 65535, 0, 1);
-        }
-    }
-
-    private static void noSuchName() {
-        ModuleScanner s = new ModuleScanner();
-        use(s, 0, "A", "B");
-        for (int name : new int[] {-1, 2, 47, 48, 64, 65, Integer.MAX_VALUE, Integer.MIN_VALUE}) {
-            ask(s, name, 0, -1, -1);
         }
     }
 }

@@ -5,19 +5,24 @@ public final class JarTest {
     public static void main(String[] args) {
         packages();
         packagesThatLookAlike();
+        packagesOfLongNames();
+        aSlashBehindAName();
         jarsOfPackages();
         needsAndOffers();
         whatIsFoundInTheJarItself();
         hiddenClassFilesNeedToo();
         reads();
         readsStopWithoutOffers();
+        readsAreNeverOfItself();
         exports();
         missingNames();
         splitPackages();
         circlesOfJars();
         theEmptyPackage();
         hiddenClassFiles();
-        noSuchThing();
+        splitOverEveryNumberOfJars();
+        everyJarUsesEveryOther();
+        whatWasThereBeforeADropIsForgotten();
         CHECKS.end();
     }
 
@@ -40,6 +45,7 @@ public final class JarTest {
         }
     }
 
+    /** "The least of the names in the package of a name". */
     private static void packages() {
         ModuleScanner s = new ModuleScanner();
         use(s, 0, "a/A", "B", "a/C", "a/b/D", "E", "a/b/F", "b/G", "a/b");
@@ -60,6 +66,32 @@ public final class JarTest {
         }
     }
 
+    /** "what is before its last /, empty when there is none": whatever stands behind it. */
+    private static void packagesOfLongNames() {
+        ModuleScanner s = new ModuleScanner();
+        use(s, 0, "a/b/Name", "a/b/Nam", "a/b/Namely", "a/b", "a/bc", "Name", "Nam", "a/Name", "a/b/c/d/e/f/g/h",
+                "a/b/c/d/e/f/g/i");
+        int[] due = {0, 0, 0, 3, 3, 5, 5, 3, 8, 8};
+        for (int name = 0; name < due.length; name++) {
+            CHECKS.same("long: packageOf(" + name + ")", s.packageOf(name), due[name]);
+        }
+        CHECKS.same("none in the empty package", s.problems(3), 0);
+        use(s, 0, "LongName");
+        CHECKS.same("one in the empty package", s.problems(3), 1);
+    }
+
+    /** The byte behind the name is the high one of the flags, which may look like a /. */
+    private static void aSlashBehindAName() {
+        ModuleScanner s = new ModuleScanner();
+        ByteRow row = ByteRow.head(4).u1(7).u2(3).u1(3).u4(0).text("Abc").tail(1);
+        CHECKS.same("flags with a /", Checks.add(s, 0, row.with("flags", 2, '/' << 8)), 0);
+        CHECKS.same("in the empty package", s.problems(3), 1);
+        use(s, 1, "Abcd", "Abc/D");
+        CHECKS.same("another one there", s.packageOf(1), 0);
+        CHECKS.same("one that is not", s.packageOf(2), 2);
+    }
+
+    /** "The set of jars that have a class file in the package of a name". */
     private static void jarsOfPackages() {
         ModuleScanner s = new ModuleScanner();
         use(s, 0, "a/A", "b/X", "c/X", "B");
@@ -83,6 +115,7 @@ public final class JarTest {
         CHECKS.same("reads of " + jar, s.jar(jar, 2), reads);
     }
 
+    /** "A jar NEEDS another one if a class file of it ... uses a name that is found in the other one, and OFFERS it, ..." */
     private static void needsAndOffers() {
         ModuleScanner s = new ModuleScanner();
         show(s, 0, "A", "B");
@@ -103,6 +136,7 @@ public final class JarTest {
         jar(s, 4, Checks.set(1), 0, Checks.set(1));
     }
 
+    /** "NEEDS another one": what is found in the jar itself is no need. */
     private static void whatIsFoundInTheJarItself() {
         ModuleScanner s = new ModuleScanner();
         show(s, 1, "A", "B");
@@ -116,6 +150,7 @@ public final class JarTest {
         CHECKS.same("exports of 1", s.exports(1), 0);
     }
 
+    /** "a class file of it (found or not)". */
     private static void hiddenClassFilesNeedToo() {
         ModuleScanner s = new ModuleScanner();
         use(s, 0, "a/A");
@@ -127,6 +162,7 @@ public final class JarTest {
         CHECKS.same("nothing is missing", s.problems(0), 0);
     }
 
+    /** "those that are offered by a jar that it reads (but not itself)". */
     private static void reads() {
         ModuleScanner s = new ModuleScanner();
         use(s, 0, "A", "B");
@@ -165,6 +201,29 @@ public final class JarTest {
         jar(s, 1, Checks.set(2), 0, Checks.set(2, 3));
     }
 
+    /** "(but not itself)": in a circle of offers of each length. */
+    private static void readsAreNeverOfItself() {
+        for (int length = 2; length <= 5; length++) {
+            ModuleScanner s = new ModuleScanner();
+            for (int jar = 0; jar < length; jar++) {
+                show(s, jar, "n" + jar, "n" + (jar + 1) % length);
+            }
+            int all = (1 << length) - 1;
+            for (int jar = 0; jar < 5; jar++) {
+                boolean inCircle = jar < length;
+                int next = inCircle ? 1 << (jar + 1) % length : 0;
+                jar(s, jar, next, next, inCircle ? all & ~(1 << jar) : 0);
+            }
+            CHECKS.same("all of them reach themselves", s.problems(2), length);
+        }
+        ModuleScanner alone = new ModuleScanner();
+        show(alone, 0, "A", "B");
+        show(alone, 0, "B", "A");
+        jar(alone, 0, 0, 0, 0);
+        CHECKS.same("a circle in one jar", alone.problems(2), 0);
+    }
+
+    /** "the packages of the names that are found in it and that a class file of another jar uses". */
     private static void exports() {
         ModuleScanner s = new ModuleScanner();
         use(s, 0, "z/Z", "b/X", "a/X", "c/X");
@@ -186,6 +245,7 @@ public final class JarTest {
         CHECKS.same("found elsewhere", s.exports(3), Checks.set(3));
     }
 
+    /** "MISSING if there is none, but a class file that is found uses it". */
     private static void missingNames() {
         ModuleScanner s = new ModuleScanner();
         use(s, 1, "A", "B", "C", "D");
@@ -203,6 +263,7 @@ public final class JarTest {
         CHECKS.same("none", s.problems(0), 0);
     }
 
+    /** "packages have class files in more than one jar". */
     private static void splitPackages() {
         ModuleScanner s = new ModuleScanner();
         use(s, 0, "a/A", "b/B");
@@ -223,6 +284,7 @@ public final class JarTest {
         CHECKS.same("after a drop", s.problems(1), 1);
     }
 
+    /** "jars reach themselves by what jars need". */
     private static void circlesOfJars() {
         ModuleScanner s = new ModuleScanner();
         use(s, 0, "A", "B", "E");
@@ -241,10 +303,14 @@ public final class JarTest {
         CHECKS.same("broken", s.problems(2), 0);
     }
 
+    /** "class files are in the empty package". */
     private static void theEmptyPackage() {
         ModuleScanner s = new ModuleScanner();
         use(s, 0, "a/A", "B", "C");
         CHECKS.same("names are no class files", s.problems(3), 0);
+        ModuleScanner first = new ModuleScanner();
+        use(first, 0, "A", "b/B");
+        CHECKS.same("the first class file counts", first.problems(3), 1);
         use(s, 1, "B");
         use(s, 2, "B");
         use(s, 2, "a");
@@ -253,6 +319,7 @@ public final class JarTest {
         CHECKS.same("one left", s.problems(3), 1);
     }
 
+    /** "class files are not what their name is found as". */
     private static void hiddenClassFiles() {
         ModuleScanner s = new ModuleScanner();
         use(s, 4, "A");
@@ -268,26 +335,53 @@ public final class JarTest {
         CHECKS.same("none again", s.problems(4), 0);
     }
 
-    private static void noSuchThing() {
+    /** "more than one jar": one, two and all of them. */
+    private static void splitOverEveryNumberOfJars() {
         ModuleScanner s = new ModuleScanner();
-        show(s, 0, "A", "B");
-        show(s, 1, "B", "A");
-        for (int name : new int[] {-1, 2, 47, 48, 64, Integer.MAX_VALUE, Integer.MIN_VALUE}) {
-            CHECKS.same("packageOf(" + name + ")", s.packageOf(name), -1);
-            CHECKS.same("jars(" + name + ")", s.jars(name), 0);
+        for (int jar = 0; jar < 5; jar++) {
+            use(s, jar, "a/A");
+            use(s, jar, "b/B" + jar);
+            CHECKS.same("two packages in " + (jar + 1) + " jars", s.problems(1), jar == 0 ? 0 : 2);
+            CHECKS.same("class files that are not found", s.problems(4), jar);
         }
-        for (int jar : new int[] {-1, 5, 31, 32, 33, Integer.MAX_VALUE, Integer.MIN_VALUE}) {
-            CHECKS.same("exports(" + jar + ")", s.exports(jar), 0);
-            for (int which = 0; which < 3; which++) {
-                CHECKS.same("jar(" + jar + ", " + which + ")", s.jar(jar, which), 0);
+        for (int jar = 0; jar < 5; jar++) {
+            s.drop(jar);
+            CHECKS.same("two packages in " + (4 - jar) + " jars", s.problems(1), jar < 3 ? 2 : 0);
+            CHECKS.same("class files that are not found", s.problems(4), jar < 4 ? 3 - jar : 0);
+        }
+    }
+
+    private static void everyJarUsesEveryOther() {
+        for (int from = 0; from < 5; from++) {
+            for (int to = 0; to < 5; to++) {
+                ModuleScanner s = new ModuleScanner();
+                use(s, to, "a/A");
+                use(s, from, "b/B", "a/A");
+                CHECKS.same("exports of " + to + " to " + from, s.exports(to), from == to ? 0 : 1);
+                CHECKS.same("needs of " + from, s.jar(from, 0), from == to ? 0 : Checks.set(to));
+                CHECKS.same("offers of " + from, s.jar(from, 1), 0);
             }
         }
-        for (int which : new int[] {-1, 3, 4, Integer.MAX_VALUE, Integer.MIN_VALUE}) {
-            CHECKS.same("jar(0, " + which + ")", s.jar(0, which), 0);
+    }
+
+    private static void whatWasThereBeforeADropIsForgotten() {
+        for (int from = 0; from < 5; from++) {
+            int to = (from + 1) % 5;
+            ModuleScanner s = new ModuleScanner();
+            use(s, to, "a/A");
+            show(s, from, "b/B", "a/A");
+            jar(s, from, Checks.set(to), Checks.set(to), Checks.set(to));
+            CHECKS.same("the user goes", s.drop(from), 1);
+            jar(s, from, 0, 0, 0);
+            CHECKS.same("nothing is exported", s.exports(to), 0);
+            show(s, from, "b/B", "a/A");
+            CHECKS.same("the used one goes", s.drop(to), 1);
+            jar(s, from, 0, 0, 0);
+            CHECKS.same("it exports nothing", s.exports(to), 0);
+            CHECKS.same("it is missing", s.problems(0), 1);
+            use(s, from, "a/A");
+            jar(s, from, 0, 0, 0);
+            CHECKS.same("it is missing no more", s.problems(0), 0);
         }
-        for (int which : new int[] {-1, 5, 6, Integer.MAX_VALUE, Integer.MIN_VALUE}) {
-            CHECKS.same("problems(" + which + ")", s.problems(which), -1);
-        }
-        jar(s, 0, 2, 2, 2);
     }
 }
